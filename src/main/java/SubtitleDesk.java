@@ -492,11 +492,11 @@ public final class SubtitleDesk {
 
     /** A row of characters that is used again and again: the input, or the text that an edit works with. */
     private static final class Text {
-        final char[] signs;
+        final int[] signs;
         int size;
 
         Text() {
-            signs = new char[MOST_INPUT];
+            signs = new int[MOST_INPUT];
             size = 0;
         }
 
@@ -504,7 +504,7 @@ public final class SubtitleDesk {
             size = 0;
         }
 
-        boolean append(char sign) {
+        boolean append(int sign) {
             if (size < 0 || size >= signs.length) {
                 return false;
             }
@@ -517,7 +517,7 @@ public final class SubtitleDesk {
             for (int i = from; i < to; i++) {
                 int sign = other.signAt(i);
                 if (sign != NONE) {
-                    append((char) sign);
+                    append(sign);
                 }
             }
         }
@@ -565,8 +565,8 @@ public final class SubtitleDesk {
 
         int upTo(int frame) {
             int found = 0;
-            for (int i = 0; i < count; i++) {
-                if (at(i) <= frame) {
+            for (int i = 0; i < count && i < frames.length; i++) {
+                if (frames[i] <= frame) {
                     found++;
                 }
             }
@@ -626,7 +626,7 @@ public final class SubtitleDesk {
         final int[] ends;
         final int[] kinds;
         final int[] sizes;
-        final char[] signs;
+        final int[] signs;
         int count;
 
         Track() {
@@ -634,7 +634,7 @@ public final class SubtitleDesk {
             ends = new int[MOST_CAPTIONS];
             kinds = new int[MOST_CAPTIONS];
             sizes = new int[MOST_CAPTIONS];
-            signs = new char[MOST_CAPTIONS * MOST_SIGNS];
+            signs = new int[MOST_CAPTIONS * MOST_SIGNS];
             count = 0;
         }
 
@@ -648,7 +648,7 @@ public final class SubtitleDesk {
         }
 
         boolean has(int caption) {
-            return caption >= 0 && caption < count && isRow(caption);
+            return caption >= 0 && caption < count && caption < MOST_CAPTIONS;
         }
 
         int first(int caption) {
@@ -672,7 +672,7 @@ public final class SubtitleDesk {
         }
 
         int signAt(int caption, int index) {
-            if (!has(caption) || index < 0 || index >= size(caption) || index >= MOST_SIGNS) {
+            if (!has(caption) || index < 0 || index >= sizes[caption] || index >= MOST_SIGNS) {
                 return NONE;
             }
             return signs[caption * MOST_SIGNS + index];
@@ -708,7 +708,10 @@ public final class SubtitleDesk {
         }
 
         int shared(int caption, int first, int end) {
-            return Math.max(0, Math.min(end, end(caption)) - Math.max(first, first(caption)));
+            if (!has(caption)) {
+                return 0;
+            }
+            return Math.max(0, Math.min(end, ends[caption]) - Math.max(first, firsts[caption]));
         }
 
         boolean sharesWithOthers(int itself, int first, int end) {
@@ -760,7 +763,7 @@ public final class SubtitleDesk {
             for (int i = from; i < to; i++) {
                 int sign = signAt(caption, i);
                 if (sign != NONE) {
-                    text.append((char) sign);
+                    text.append(sign);
                 }
             }
         }
@@ -778,7 +781,7 @@ public final class SubtitleDesk {
             }
             sizes[caption] = Math.min(text.size, MOST_SIGNS);
             for (int i = 0; i < sizes[caption] && i < MOST_SIGNS; i++) {
-                signs[caption * MOST_SIGNS + i] = (char) text.signAt(i);
+                signs[caption * MOST_SIGNS + i] = text.signAt(i);
             }
         }
 

@@ -188,7 +188,7 @@ final class CaptionsTest {
 
     private void promise11SplitRefused() {
         SubtitleDesk desk = Desks.reading("a.10-11:a_b;a.20-40:_ab|_cd_;b.1-2:x");
-        noSuchCaption("split", desk, (track, caption) -> desk.split(track, caption, 1));
+        noSuchCaption("split", desk, (track, caption) -> desk.split(track, caption, 0));
         for (int wrong : new int[] {-1, 3, 24, Integer.MIN_VALUE, Integer.MAX_VALUE}) {
             check.fails("place " + wrong, IndexOutOfBoundsException.class, () -> desk.split(0, 0, wrong));
         }
