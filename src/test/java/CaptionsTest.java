@@ -28,22 +28,28 @@ final class CaptionsTest {
         test.check.end();
     }
 
-    private void refused(SubtitleDesk desk, int reason, String what, Check.Call call) {
-        String before = Desks.captions(desk, 0) + "|" + Desks.captions(desk, 1);
-        int changes = desk.number(12);
+    private void refused(Desk desk, int reason, String what, Check.Call call) {
+        String before = numbers(desk);
         check.fails(what, UnsupportedOperationException.class, call);
         check.same(what + ": reason", desk.refusal(true), reason);
         check.same(what + ": item", desk.refusal(false), 0);
-        check.same(what + ": changes", desk.number(12), changes);
-        check.isTrue(what + " leaves the captions", before.equals(Desks.captions(desk, 0) + "|" + Desks.captions(desk, 1)));
+        check.sameText(what + ": numbers", numbers(desk), before);
     }
 
-    private void captionsAre(SubtitleDesk desk, int track, String due) {
+    private static String numbers(Desk desk) {
+        StringBuilder all = new StringBuilder();
+        for (int what = 6; what <= 12; what++) {
+            all.append(desk.number(what)).append(' ');
+        }
+        return all.toString();
+    }
+
+    private void captionsAre(Desk desk, int track, String due) {
         String got = Desks.captions(desk, track);
         check.isTrue("captions are " + got + ", due is " + due + ", which", got.equals(due));
     }
 
-    private void noSuchCaption(String what, SubtitleDesk desk, java.util.function.IntBinaryOperator call) {
+    private void noSuchCaption(String what, Desk desk, java.util.function.IntBinaryOperator call) {
         int[][] wrong = {{-1, 0}, {2, 0}, {0, -1}, {0, desk.number(8)}, {1, desk.number(9)},
             {Integer.MIN_VALUE, 0}, {Integer.MAX_VALUE, 0}, {0, Integer.MIN_VALUE}, {0, Integer.MAX_VALUE}};
         for (int[] pair : wrong) {
@@ -53,7 +59,7 @@ final class CaptionsTest {
     }
 
     private void promise7Feed() {
-        SubtitleDesk desk = new SubtitleDesk();
+        Desk desk = new Desk();
         for (int i = 1; i <= 60; i++) {
             check.same("feed " + i, desk.feed((char) (i * 1000)), i);
         }
@@ -65,7 +71,7 @@ final class CaptionsTest {
     }
 
     private void promise8Add() {
-        SubtitleDesk desk = new SubtitleDesk();
+        Desk desk = new Desk();
         check.same("the first one", Desks.add(desk, 0, 0, 500, 600, "ab"), 0);
         check.same("the input is empty", desk.number(13), 0);
         check.same("behind it", Desks.add(desk, 0, 1, 600, 1000, "c_d"), 1);
@@ -78,7 +84,7 @@ final class CaptionsTest {
     }
 
     private void promise8AddRefused() {
-        SubtitleDesk desk = Desks.reading("a.100-200:x");
+        Desk desk = Desks.reading("a.100-200:x");
         refused(desk, 1, "before the film", () -> Desks.add(desk, 0, 0, -1, 50, "y"));
         refused(desk, 1, "behind the film", () -> Desks.add(desk, 0, 0, 900, 1001, "y"));
         refused(desk, 1, "1 comes before 2", () -> Desks.add(desk, 0, 0, 1002, 1001, "y"));
@@ -109,31 +115,38 @@ final class CaptionsTest {
         String[] wrong = {"", "|", "|a", "a|", "a|b|c", LONGEST + "y", "aB", "a b", "a1", "a`", "a{", "a~", "a\n",
             "\u00e9", "a\u0161b", "\u0161"};
         for (String text : wrong) {
-            SubtitleDesk desk = new SubtitleDesk();
+            Desk desk = new Desk();
             refused(desk, 4, "text " + text, () -> Desks.add(desk, 0, 0, 5, 10, text));
             check.same("input after " + text, desk.number(13), 0);
         }
         for (String text : new String[] {"a", "z", "_", "_|_", "a_|_b", "az|az", LONGEST}) {
-            SubtitleDesk desk = new SubtitleDesk();
+            Desk desk = new Desk();
             check.same("text " + text, Desks.add(desk, 0, 0, 5, 10, text), 0);
             check.isTrue("text is " + text, text.equals(Desks.text(desk, 0, 0)));
         }
     }
 
-    private void promise8AddAtTheMost() {
-        SubtitleDesk desk = new SubtitleDesk();
+    private Desk fullTrack() {
+        Desk desk = new Desk();
         for (int i = 15; i >= 0; i--) {
             check.same("caption " + i, Desks.add(desk, 1, 0, i * 10, i * 10 + 5, "x"), 0);
         }
-        refused(desk, 8, "the 17th", () -> Desks.add(desk, 1, 0, 300, 305, "x"));
-        refused(desk, 4, "4 comes before 8", () -> Desks.add(desk, 1, 0, 300, 305, "X"));
-        refused(desk, 3, "3 comes before 8", () -> Desks.add(desk, 1, 0, 0, 1, "x"));
-        check.same("the other track has room", Desks.add(desk, 0, 0, 300, 305, "x"), 0);
-        check.same("the last one", desk.caption(1, 15, 0), 150);
+        return desk;
+    }
+
+    private void promise8AddAtTheMost() {
+        Desk eight = fullTrack();
+        refused(eight, 8, "the 17th", () -> Desks.add(eight, 1, 0, 300, 305, "x"));
+        Desk four = fullTrack();
+        refused(four, 4, "4 comes before 8", () -> Desks.add(four, 1, 0, 300, 305, "X"));
+        Desk three = fullTrack();
+        refused(three, 3, "3 comes before 8", () -> Desks.add(three, 1, 0, 0, 1, "x"));
+        check.same("the other track has room", Desks.add(three, 0, 0, 300, 305, "x"), 0);
+        check.same("the last one", three.caption(1, 15, 0), 150);
     }
 
     private void promise9Remove() {
-        SubtitleDesk desk = Desks.reading("a.10-20:a;a*30-40:bb;a!50-60:c|c", "b.10-20:d");
+        Desk desk = Desks.reading("a.10-20:a;a*30-40:bb;a!50-60:c|c", "b.10-20:d");
         noSuchCaption("remove", desk, desk::remove);
         check.same("remove the middle", desk.remove(0, 1), 2);
         captionsAre(desk, 0, "0/10-20:a 1/50-60:c|c");
@@ -148,7 +161,7 @@ final class CaptionsTest {
     }
 
     private void promise10Move() {
-        SubtitleDesk desk = Desks.reading("a.10-20:a;a*30-40:bb;a!50-60:c|c");
+        Desk desk = Desks.reading("a.10-20:a;a*30-40:bb;a!50-60:c|c");
         noSuchCaption("move", desk, (track, caption) -> desk.move(track, caption, 0, 1));
         check.same("over its own frames", desk.move(0, 1, 20, 50), 1);
         check.same("behind all", desk.move(0, 0, 999, 1000), 2);
@@ -160,7 +173,7 @@ final class CaptionsTest {
     }
 
     private void promise10MoveRefused() {
-        SubtitleDesk desk = Desks.reading("a.10-20:a;a*30-40:bb;b.0-999:x");
+        Desk desk = Desks.reading("a.10-20:a;a*30-40:bb;b.0-999:x");
         refused(desk, 1, "before the film", () -> desk.move(0, 0, -1, 5));
         refused(desk, 1, "behind the film", () -> desk.move(0, 0, 990, 1001));
         refused(desk, 1, "1 comes before 2", () -> desk.move(0, 0, -1, -2));
@@ -173,7 +186,7 @@ final class CaptionsTest {
     }
 
     private void promise11Split() {
-        SubtitleDesk desk = Desks.reading("a*10-40:hello|you;a!100-104:a_bcdefgh;a.50-60:ab|c_d");
+        Desk desk = Desks.reading("a*10-40:hello|you;a!100-104:a_bcdefgh;a.50-60:ab|c_d");
         captionsAre(desk, 0, "2/10-40:hello|you 0/50-60:ab|c_d 1/100-104:a_bcdefgh");
         check.same("at the new line", desk.split(0, 0, 5), 30 * 5 / 8);
         captionsAre(desk, 0, "2/10-28:hello 2/28-40:you 0/50-60:ab|c_d 1/100-104:a_bcdefgh");
@@ -187,7 +200,7 @@ final class CaptionsTest {
     }
 
     private void promise11SplitRefused() {
-        SubtitleDesk desk = Desks.reading("a.10-11:a_b;a.20-40:_ab|_cd_;b.1-2:x");
+        Desk desk = Desks.reading("a.10-11:a_b;a.20-40:_ab|_cd_;b.1-2:x");
         noSuchCaption("split", desk, (track, caption) -> desk.split(track, caption, 0));
         for (int wrong : new int[] {-1, 3, 24, Integer.MIN_VALUE, Integer.MAX_VALUE}) {
             check.fails("place " + wrong, IndexOutOfBoundsException.class, () -> desk.split(0, 0, wrong));
@@ -211,19 +224,19 @@ final class CaptionsTest {
     }
 
     private void promise12Merge() {
-        SubtitleDesk desk = Desks.reading("a*10-20:ab|c;a*25-30:de;a*30-31:f;b.10-20:x");
+        Desk desk = Desks.reading("a*10-20:ab|c;a*25-30:de;a*30-31:f;b.10-20:x");
         check.same("the load then", desk.merge(0, 0), 6);
         captionsAre(desk, 0, "2/10-30:ab|c_de 2/30-31:f");
         check.same("no gap", desk.merge(0, 0), 8);
         captionsAre(desk, 0, "2/10-31:ab|c_de_f");
         captionsAre(desk, 1, "0/10-20:x");
         check.same("changes", desk.number(12), 3);
-        SubtitleDesk full = Desks.reading("a.0-10:abcdefghijk;a.10-20:abcdefghijkl");
+        Desk full = Desks.reading("a.0-10:abcdefghijk;a.10-20:abcdefghijkl");
         check.same("24 characters", full.merge(0, 0), 24);
     }
 
     private void promise12MergeRefused() {
-        SubtitleDesk desk = Desks.reading("a.10-20:a|b;a.25-30:c|d;a.36-40:e", "a!100-110:ab;b.1-2:x;b.3-4:y");
+        Desk desk = Desks.reading("a.10-20:a|b;a.25-30:c|d;a.36-40:e", "a!100-110:ab;b.1-2:x;b.3-4:y");
         noSuchCaption("merge", desk, desk::merge);
         refused(desk, 4, "two new lines", () -> desk.merge(0, 0));
         refused(desk, 7, "a gap of 6", () -> desk.merge(0, 1));
@@ -234,12 +247,12 @@ final class CaptionsTest {
         refused(desk, 7, "7 comes before 4", () -> desk.merge(0, 0));
         desk.set(3, 6);
         check.same("the gap for merging", desk.merge(0, 1), 4);
-        SubtitleDesk full = Desks.reading("a.0-10:abcdefghijkl;a.10-20:abcdefghijkl");
+        Desk full = Desks.reading("a.0-10:abcdefghijkl;a.10-20:abcdefghijkl");
         refused(full, 4, "25 characters", () -> full.merge(0, 0));
     }
 
     private void promise13Snap() {
-        SubtitleDesk desk = Desks.reading("a.10-40:x;a.100-200:y;c13;c37;c43;c104;c196", "b.97-197:z");
+        Desk desk = Desks.reading("a.10-40:x;a.100-200:y;c13;c37;c43;c104;c196", "b.97-197:z");
         noSuchCaption("snap", desk, desk::snap);
         check.same("both", desk.snap(0, 0), 3);
         captionsAre(desk, 0, "0/13-37:x 0/100-200:y");
@@ -253,27 +266,27 @@ final class CaptionsTest {
         desk.set(1, 0);
         check.same("nothing is loose with the zone 0", desk.snap(0, 1), 0);
         check.same("changes, also without a difference", desk.number(12), 8);
-        SubtitleDesk near = Desks.reading("a.50-60:x;c47;c53;c52;c62");
+        Desk near = Desks.reading("a.50-60:x;c47;c53;c52;c62");
         check.same("the nearest", near.snap(0, 0), 3);
         captionsAre(near, 0, "0/52-62:x");
     }
 
     private void promise13SnapRefused() {
-        SubtitleDesk one = Desks.reading("a.10-14:x;c12");
+        Desk one = Desks.reading("a.10-14:x;c12");
         refused(one, 2, "both to one cut", () -> one.snap(0, 0));
-        SubtitleDesk on = Desks.reading("a.10-12:x;c10");
+        Desk on = Desks.reading("a.10-12:x;c10");
         refused(on, 2, "the end to where it begins", () -> on.snap(0, 0));
-        SubtitleDesk shared = Desks.reading("a.10-20:x;a.20-30:y;c22");
+        Desk shared = Desks.reading("a.10-20:x;a.20-30:y;c22");
         refused(shared, 3, "into the next one", () -> shared.snap(0, 0));
         check.same("the next one itself", shared.snap(0, 1), 1);
         check.same("then there is room", shared.snap(0, 0), 2);
-        SubtitleDesk before = Desks.reading("a.10-20:x;a.20-30:y;c18;b.10-20:z");
+        Desk before = Desks.reading("a.10-20:x;a.20-30:y;c18;b.10-20:z");
         refused(before, 3, "into the former one", () -> before.snap(0, 1));
         check.same("the other track does not bind", before.snap(1, 0), 2);
     }
 
     private void promise14Fit() {
-        SubtitleDesk desk = Desks.reading("a.10-11:abcdefg;b!10-11:abcdefg;b*30-31:abcdefg");
+        Desk desk = Desks.reading("a.10-11:abcdefg;b!10-11:abcdefg;b*30-31:abcdefg");
         noSuchCaption("fit", desk, desk::fit);
         check.same("speech: 11.67 is 12", desk.fit(0, 0), 11);
         check.same("a sign: 6", desk.fit(1, 0), 5);
@@ -288,9 +301,9 @@ final class CaptionsTest {
     }
 
     private void promise14FitHeldBack() {
-        SubtitleDesk end = Desks.reading("a.995-996:abcdefg");
+        Desk end = Desks.reading("a.995-996:abcdefg");
         check.same("the end of the film", end.fit(0, 0), 4);
-        SubtitleDesk next = Desks.reading("a.10-11:abcdefg;a.20-30:x;a.31-32:abcdefg;a.33-50:x");
+        Desk next = Desks.reading("a.10-11:abcdefg;a.20-30:x;a.31-32:abcdefg;a.33-50:x");
         check.same("the least gap", next.fit(0, 0), 7);
         check.same("the gap is less already", next.fit(0, 2), 0);
         next.set(2, 9);
@@ -298,7 +311,7 @@ final class CaptionsTest {
         next.set(2, 0);
         check.same("up to the next one", next.fit(0, 0), 2);
         captionsAre(next, 0, "0/10-20:abcdefg 0/20-30:x 0/31-32:abcdefg 0/33-50:x");
-        SubtitleDesk cut = Desks.reading("a.10-13:abcdefg;c12;c15;c14;b.10-12:abcdefg");
+        Desk cut = Desks.reading("a.10-13:abcdefg;c12;c15;c14;b.10-12:abcdefg");
         check.same("the first cut that is not before its end", cut.fit(0, 0), 1);
         check.same("its end is a cut then", cut.fit(0, 0), 0);
         check.same("its end is a cut", cut.fit(1, 0), 0);
@@ -309,7 +322,7 @@ final class CaptionsTest {
     }
 
     private void promise15Retime() {
-        SubtitleDesk desk = Desks.reading("a.10-20:x;a.20-40:y;b.15-30:z", "b.0-1:w");
+        Desk desk = Desks.reading("a.10-20:x;a.20-40:y;b.15-30:z", "b.0-1:w");
         check.same("one track", desk.retime(0, 10, 110, 20, 130), 2);
         captionsAre(desk, 0, "0/110-130:x 0/130-170:y");
         captionsAre(desk, 1, "0/0-1:w 0/15-30:z");
@@ -321,32 +334,32 @@ final class CaptionsTest {
         check.same("the other track", desk.retime(1, 0, 940, 1000, 1940), 2);
         captionsAre(desk, 1, "0/940-942:w 0/970-1000:z");
         check.same("changes", desk.number(12), 7);
-        check.same("no captions", new SubtitleDesk().retime(-1, 9998, 0, 9999, 9999), 0);
+        check.same("no captions", new Desk().retime(-1, 9998, 0, 9999, 9999), 0);
     }
 
     private void promise15RetimeRounds() {
-        SubtitleDesk half = Desks.reading("a.1-3:x;a.4-7:y");
+        Desk half = Desks.reading("a.1-3:x;a.4-7:y");
         check.same("halves up", half.retime(0, 0, 0, 2, 1), 2);
         captionsAre(half, 0, "0/1-2:x 0/2-4:y");
-        SubtitleDesk below = Desks.reading("a.1-3:x");
+        Desk below = Desks.reading("a.1-3:x");
         check.same("halves up below the point", below.retime(0, 4, 10, 6, 11), 1);
         captionsAre(below, 0, "0/9-10:x");
-        SubtitleDesk third = Desks.reading("a.1-5:x");
+        Desk third = Desks.reading("a.1-5:x");
         check.same("thirds", third.retime(0, 0, 0, 3, 2), 1);
         captionsAre(third, 0, "0/1-3:x");
-        SubtitleDesk edge = Desks.reading("a.1-3:x");
+        Desk edge = Desks.reading("a.1-3:x");
         check.same("-0.5 becomes 0", edge.retime(0, 2, 0, 4, 1), 1);
         captionsAre(edge, 0, "0/0-1:x");
     }
 
     private void promise15RetimeWrong() {
-        SubtitleDesk desk = Desks.reading("a.10-20:x;b.30-31:y");
+        Desk desk = Desks.reading("a.10-20:x;b.30-31:y");
         refused(desk, 1, "before the film", () -> desk.retime(0, 11, 0, 21, 10));
         refused(desk, 1, "behind the film", () -> desk.retime(0, 10, 991, 20, 1001));
         refused(desk, 2, "no frames left", () -> desk.retime(1, 0, 0, 9999, 100));
         refused(desk, 1, "1 in track 0, 2 in track 1", () -> desk.retime(-1, 20, 0, 24, 1));
         check.same("track 0 alone", desk.retime(0, 0, 0, 100, 50), 1);
-        SubtitleDesk other = Desks.reading("b.10-20:x;a.30-31:y");
+        Desk other = Desks.reading("b.10-20:x;a.30-31:y");
         refused(other, 1, "2 in track 0, 1 in track 1", () -> other.retime(-1, 20, 0, 24, 1));
         refused(other, 1, "very far", () -> other.retime(-1, 9998, 0, 9999, 9999));
         refused(other, 1, "very far behind", () -> other.retime(-1, 0, 0, 1, 9999));

@@ -35,9 +35,8 @@ final class FaceTest {
         check.isTrue("the public methods are " + seen, seen.equals(new TreeSet<>(Arrays.asList(FACE))));
         checkTheRestIsPrivate(check, desk, names);
         for (Class<?> inner : desk.getDeclaredClasses()) {
-            for (Method method : inner.getDeclaredMethods()) {
-                check.isTrue(method + " has a name of its own", !names.contains(method.getName()));
-            }
+            check.isTrue(inner + " is not seen from outside", !Modifier.isPublic(inner.getModifiers())
+                    && !Modifier.isProtected(inner.getModifiers()));
         }
         Constructor<?>[] constructors = desk.getDeclaredConstructors();
         check.isTrue("one public constructor without parameters", constructors.length == 1

@@ -21,7 +21,7 @@ final class FilmTest {
     }
 
     private void promise1NewObject() {
-        SubtitleDesk desk = new SubtitleDesk();
+        Desk desk = new Desk();
         for (int what = 0; what < 6; what++) {
             check.same("setting " + what + " at first", desk.number(what), AT_FIRST[what]);
         }
@@ -40,7 +40,7 @@ final class FilmTest {
     }
 
     private void promise2Film() {
-        SubtitleDesk desk = new SubtitleDesk();
+        Desk desk = new Desk();
         check.same("film(100)", desk.film(100), 1000);
         check.same("film(9999)", desk.film(9999), 100);
         check.same("film(9999) again", desk.film(9999), 9999);
@@ -54,7 +54,7 @@ final class FilmTest {
     }
 
     private void promise2FilmRefused() {
-        SubtitleDesk desk = Desks.reading("a.10-200:x;b.10-300:x;c399");
+        Desk desk = Desks.reading("a.10-200:x;b.10-300:x;c399");
         check.fails("a cut at the length", UnsupportedOperationException.class, () -> desk.film(399));
         check.same("its reason", desk.refusal(true), 1);
         check.same("its item", desk.refusal(false), 0);
@@ -70,7 +70,7 @@ final class FilmTest {
     }
 
     private void promise3Set() {
-        SubtitleDesk desk = new SubtitleDesk();
+        Desk desk = new Desk();
         for (int what = 0; what < 6; what++) {
             int number = what;
             check.same("set least " + what, desk.set(what, FROM[what]), AT_FIRST[what]);
@@ -83,13 +83,13 @@ final class FilmTest {
             check.fails("set of " + wrong, IllegalArgumentException.class, () -> desk.set(wrong, 5));
         }
         check.same("only 8 are kept", desk.number(12), 8);
-        SubtitleDesk other = new SubtitleDesk();
+        Desk other = new Desk();
         check.same("the same number", other.set(0, 15), 15);
         check.same("is a change too", other.number(12), 1);
     }
 
     private void promise4Cut() {
-        SubtitleDesk desk = new SubtitleDesk();
+        Desk desk = new Desk();
         for (int wrong : new int[] {0, 1000, -1, Integer.MIN_VALUE, Integer.MAX_VALUE}) {
             check.fails("cut " + wrong, IndexOutOfBoundsException.class, () -> desk.cut(wrong, true));
             check.fails("uncut " + wrong, IndexOutOfBoundsException.class, () -> desk.cut(wrong, false));
@@ -108,7 +108,7 @@ final class FilmTest {
     }
 
     private void promise4CutAtTheMost() {
-        SubtitleDesk desk = new SubtitleDesk();
+        Desk desk = new Desk();
         for (int i = 20; i >= 1; i--) {
             check.same("cut " + i, desk.cut(i * 10, true), 21 - i);
         }
@@ -123,7 +123,7 @@ final class FilmTest {
     }
 
     private void promise5Number() {
-        SubtitleDesk desk = Desks.reading("a.10-40:ab;b.20-30:cd;b.35-60:ef;c13", "a!60-70:x;c60;c700");
+        Desk desk = Desks.reading("a.10-40:ab;b.20-30:cd;b.35-60:ef;c13", "a!60-70:x;c60;c700");
         check.same("cuts", desk.number(7), 3);
         check.same("captions of 0", desk.number(8), 2);
         check.same("captions of 1", desk.number(9), 2);
@@ -134,7 +134,7 @@ final class FilmTest {
         for (int wrong : new int[] {-1, 14, Integer.MIN_VALUE, Integer.MAX_VALUE}) {
             check.fails("number " + wrong, IllegalArgumentException.class, () -> desk.number(wrong));
         }
-        check.same("read empties the input", Desks.feed(new SubtitleDesk(), "x").number(13), 1);
+        check.same("read empties the input", Desks.feed(new Desk(), "x").number(13), 1);
         desk.film(200 + 600);
         check.same("length", desk.number(6), 800);
         desk.undo();
@@ -143,7 +143,7 @@ final class FilmTest {
     }
 
     private void promise5NumberOfProblems() {
-        SubtitleDesk desk = Desks.reading("a.100-130:abc;b.103-133:abc", "a!300-310:abc;b*500-530:x");
+        Desk desk = Desks.reading("a.100-130:abc;b.103-133:abc", "a!300-310:abc;b*500-530:x");
         check.same("only the one without partner", desk.number(11), 1);
         desk.set(4, 2);
         check.same("both are out of step", desk.number(11), 3);
@@ -152,7 +152,7 @@ final class FilmTest {
     }
 
     private void promise6Shot() {
-        SubtitleDesk desk = Desks.reading("c10;c500;c20");
+        Desk desk = Desks.reading("c10;c500;c20");
         int[] frames = {0, 9, 10, 19, 20, 499, 500, 999};
         int[] shots = {0, 0, 1, 1, 2, 2, 3, 3};
         for (int i = 0; i < frames.length; i++) {

@@ -1,20 +1,26 @@
 import java.util.Random;
 import java.util.function.DoubleSupplier;
 
-/** Runs of 512 calls, the same ones each time, answered by a desk and by the naive model of the document. */
+/** Runs of up to 512 calls, the same ones each time, answered by a desk and by the naive model of the document. */
 final class RandomRunsTest {
+    // One more than the input holds.
+    private static final int MOST_FED = 61;
+    // A text of items takes the most: what is fed, the call, and what is asked behind it; then all numbers are asked.
+    private static final int MOST_OF_ONE_STEP = 120;
+    private static final int MOST_CAPTIONS = 16;
     private static final int[] EXTREMES = {Integer.MIN_VALUE, Integer.MAX_VALUE, -1, Integer.MIN_VALUE + 1, Integer.MAX_VALUE - 1};
     private static final String FEED = "abcxyz_|_|abz_.!*-:;0123456789cu\u0000 \u00ff\u1234";
 
     private final Check check = new Check("RandomRunsTest");
     private Random random;
-    private SubtitleDesk desk;
+    private Desk desk;
     private Model model;
     private int run;
     private int span;
+    private boolean isCrowded;
 
     public static void main(String[] args) {
-        int runs = args.length > 0 ? Integer.parseInt(args[0]) : 120;
+        int runs = args.length > 0 ? Integer.parseInt(args[0]) : 1500;
         int first = args.length > 1 ? Integer.parseInt(args[1]) : 1;
         RandomRunsTest test = new RandomRunsTest();
         for (int run = first; run < first + runs; run++) {
@@ -26,14 +32,15 @@ final class RandomRunsTest {
     private void oneRun(int number) {
         run = number;
         random = new Random(number);
-        desk = new SubtitleDesk();
+        desk = new Desk();
         model = new Model();
-        // In a small span captions meet often; in a wide one a track fills up.
+        // In a small span captions meet often; in a wide one, and with short texts, a track fills up.
         span = new int[] {30, 100, 300, 1000, 9999}[random.nextInt(5)];
-        for (int call = 0; call < 512; call++) {
+        isCrowded = random.nextInt(4) == 0;
+        while (desk.callsLeft() > MOST_OF_ONE_STEP) {
             oneCall();
         }
-        compareAll();
+        compareWhatIsLeft();
     }
 
     /** What a call answers, or the very class that it throws; a division by zero is the machine's own. */
@@ -67,7 +74,7 @@ final class RandomRunsTest {
 
     private int captionOf(int track) {
         int dice = random.nextInt(30);
-        int count = track == 0 || track == 1 ? desk.number(8 + track) : 1;
+        int count = track == 0 || track == 1 ? model.number(8 + track) : 1;
         return dice == 0 ? EXTREMES[random.nextInt(EXTREMES.length)] : random.nextInt(count + (dice < 3 ? 1 : 0) + (count == 0 ? 1 : 0));
     }
 
@@ -77,7 +84,7 @@ final class RandomRunsTest {
 
     private String words() {
         StringBuilder words = new StringBuilder();
-        int size = random.nextInt(4) == 0 ? random.nextInt(27) : 1 + random.nextInt(9);
+        int size = isCrowded ? 1 + random.nextInt(2) : random.nextInt(4) == 0 ? random.nextInt(27) : 1 + random.nextInt(9);
         String signs = random.nextInt(4) == 0 ? "a|_" : "abcdefghijklmnopqrstuvwxyz_____";
         for (int i = 0; i < size; i++) {
             words.append(random.nextInt(12) == 0 && i == size / 2 ? '|' : signs.charAt(random.nextInt(signs.length())));
@@ -103,7 +110,7 @@ final class RandomRunsTest {
 
     private void feedItems() {
         StringBuilder text = new StringBuilder(item());
-        for (int i = random.nextInt(4); i > 0; i--) {
+        for (int i = random.nextInt(4); i > 0 || isCrowded && text.length() < 48; i--) {
             text.append(';').append(item());
         }
         int dice = random.nextInt(6);
@@ -116,7 +123,7 @@ final class RandomRunsTest {
         } else if (dice == 2) {
             text.setLength(place);
         }
-        feed(text.toString());
+        feed(text.substring(0, Math.min(text.length(), MOST_FED)));
     }
 
     private void oneCall() {
@@ -151,12 +158,13 @@ final class RandomRunsTest {
             case 26 -> retime(random.nextInt(3) == 0 ? -1 : track);
             case 27 -> same("undo()", desk::undo, model::undo);
             case 28 -> snapshots();
-            case 29 -> compareAll();
             default -> ask(track, caption);
         }
-        same("refusal", () -> desk.refusal(true), () -> model.refusal(true));
-        same("refused item", () -> desk.refusal(false), () -> model.refusal(false));
-        same("fault", desk::faultPosition, model::faultPosition);
+        if (random.nextInt(3) == 0) {
+            same("refusal", () -> desk.refusal(true), () -> model.refusal(true));
+            same("refused item", () -> desk.refusal(false), () -> model.refusal(false));
+            same("fault", desk::faultPosition, model::faultPosition);
+        }
     }
 
     private void film(int length) {
@@ -175,7 +183,7 @@ final class RandomRunsTest {
         int place = random.nextInt(20) == 0 ? frame() : random.nextInt(24);
         for (int at = 0; at < 24; at++) {
             int from = (place + at) % 24;
-            boolean isPlace = place >= 0 && place < 24 && answer(() -> desk.letter(track, caption, from)).equals(String.valueOf((double) '_'));
+            boolean isPlace = place >= 0 && place < 24 && answer(() -> model.letter(track, caption, from)).equals(String.valueOf((double) '_'));
             if (isPlace || at == 23) {
                 int chosen = isPlace ? from : place;
                 same("split(" + track + ", " + caption + ", " + chosen + ")",
@@ -214,8 +222,8 @@ final class RandomRunsTest {
         same("shown(" + track + ", " + frame + ")", () -> desk.shown(track, frame), () -> model.shown(track, frame));
     }
 
-    private void compareAll() {
-        for (int what = 0; what <= 13; what++) {
+    private void compareWhatIsLeft() {
+        for (int what = 6; what <= 13; what++) {
             int asked = what;
             same("number(" + what + ")", () -> desk.number(asked), () -> model.number(asked));
         }
@@ -227,9 +235,9 @@ final class RandomRunsTest {
             }
             same("fastest(" + track + ")", () -> desk.fastest(track), () -> model.fastest(track));
             same("speed(" + track + ")", () -> desk.speed(track), () -> model.speed(track));
-            for (int i = 0; i < desk.number(8 + track); i++) {
-                compareCaption(track, i);
-            }
+        }
+        while (desk.callsLeft() > 13) {
+            compareCaption(random.nextInt(2), random.nextInt(MOST_CAPTIONS));
         }
     }
 
@@ -239,10 +247,8 @@ final class RandomRunsTest {
             same("caption(" + track + ", " + caption + ", " + what + ")",
                     () -> desk.caption(track, caption, asked), () -> model.caption(track, caption, asked));
         }
-        for (int index = 0; index <= desk.caption(track, caption, 7); index++) {
-            int asked = index;
-            same("letter(" + track + ", " + caption + ", " + index + ")",
-                    () -> desk.letter(track, caption, asked), () -> model.letter(track, caption, asked));
-        }
+        int index = random.nextInt(24);
+        same("letter(" + track + ", " + caption + ", " + index + ")",
+                () -> desk.letter(track, caption, index), () -> model.letter(track, caption, index));
     }
 }

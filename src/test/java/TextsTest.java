@@ -19,7 +19,7 @@ final class TextsTest {
     }
 
     private void promise22Read() {
-        SubtitleDesk desk = new SubtitleDesk();
+        Desk desk = new Desk();
         check.same("three items", Desks.read(desk, "b*0030-40:_q|z_;a!5-0009:a;c999"), 3);
         check.same("the input is empty", desk.number(13), 0);
         check.same("one change", desk.number(12), 1);
@@ -36,14 +36,14 @@ final class TextsTest {
     }
 
     private void promise22ReadAsManyAsFit() {
-        SubtitleDesk desk = new SubtitleDesk();
+        Desk desk = new Desk();
         check.same("20 items", Desks.read(desk, "c1;c2;c3;c4;c5;c6;c7;c8;c9;u1;u2;u3;u4;u5;u6;u7;u8;u9;c1;c22"), 20);
         check.same("their cuts", desk.number(7), 2);
         check.same("of 60 characters", Desks.read(desk, "a.1-2:x;a.3-4:y;a.5-6:z;a.7-8:w;c1;c2;c3;c4;c5;c6;c7;c8;u10"), 13);
         check.same("captions", desk.number(8), 4);
     }
 
-    private void refusedItem(SubtitleDesk desk, String text, int reason, int item) {
+    private void refusedItem(Desk desk, String text, int reason, int item) {
         int changes = desk.number(12);
         check.fails(text, UnsupportedOperationException.class, () -> Desks.read(desk, text));
         check.same(text + ": reason", desk.refusal(true), reason);
@@ -53,7 +53,7 @@ final class TextsTest {
     }
 
     private void promise22ReadAllOrNone() {
-        SubtitleDesk desk = Desks.reading("a.10-40:ab;c50");
+        Desk desk = Desks.reading("a.10-40:ab;c50");
         refusedItem(desk, "c60;u50;b.1-2:x;a.20-60:x", 3, 3);
         check.same("the cut is still there", desk.shot(50), 1);
         check.same("the other one is not", desk.shot(60), 1);
@@ -74,7 +74,7 @@ final class TextsTest {
     }
 
     private void fault(String text, int position) {
-        SubtitleDesk desk = Desks.reading("c5");
+        Desk desk = Desks.reading("c5");
         check.fails(text, IllegalArgumentException.class, () -> Desks.read(desk, text));
         check.same(text + ": position", desk.faultPosition(), position);
         check.same(text + ": input", desk.number(13), 0);
@@ -100,7 +100,7 @@ final class TextsTest {
     }
 
     private void promise23FaultIsKept() {
-        SubtitleDesk desk = new SubtitleDesk();
+        Desk desk = new Desk();
         check.fails("none at first", NoSuchElementException.class, desk::faultPosition);
         check.fails("a fault", IllegalArgumentException.class, () -> Desks.read(desk, "c5;x"));
         check.same("its position", desk.faultPosition(), 3);
@@ -116,7 +116,7 @@ final class TextsTest {
     }
 
     private void promise24Refusals() {
-        SubtitleDesk desk = Desks.reading("a.10-40:ab");
+        Desk desk = Desks.reading("a.10-40:ab");
         refusedItem(desk, "c1000", 1, 0);
         refusedItem(desk, "c5;u0", 1, 1);
         refusedItem(desk, "u1000", 1, 0);
@@ -141,7 +141,7 @@ final class TextsTest {
     }
 
     private void promise24RefusalIsKept() {
-        SubtitleDesk desk = Desks.reading("a.10-40:ab", "c20");
+        Desk desk = Desks.reading("a.10-40:ab", "c20");
         refusedItem(desk, "c5;c0", 1, 1);
         Desks.read(desk, "b.1-2:x");
         desk.undo();

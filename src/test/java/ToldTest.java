@@ -21,18 +21,18 @@ final class ToldTest {
         test.check.end();
     }
 
-    private void figures(SubtitleDesk desk, int track, int caption, int... due) {
+    private void figures(Desk desk, int track, int caption, int... due) {
         for (int what = 0; what < due.length; what++) {
             check.same("caption(" + track + ", " + caption + ", " + what + ")", desk.caption(track, caption, what), due[what]);
         }
     }
 
-    private void problems(String what, SubtitleDesk desk, int track, int caption, int due) {
+    private void problems(String what, Desk desk, int track, int caption, int due) {
         check.same(what, desk.caption(track, caption, 5), due);
     }
 
     private void promise16Caption() {
-        SubtitleDesk desk = Desks.reading("a.10-40:hello|yo;a*43-60:a_b;b!12-45:xyz;c10;c40;c11", "c39;b.100-200:q");
+        Desk desk = Desks.reading("a.10-40:hello|yo;a*43-60:a_b;b!12-45:xyz;c10;c40;c11", "c39;b.100-200:q");
         figures(desk, 0, 0, 10, 40, 0, 7, 12, 0, 0, 8, 5, 2, -1, 28);
         figures(desk, 0, 1, 43, 60, 2, 3, 4, 2 + 32, 0, 3, 3, 0, 3, 2);
         figures(desk, 1, 0, 12, 45, 1, 3, 3, 2, 0, 3, 3, 2, -1, 28);
@@ -48,7 +48,7 @@ final class ToldTest {
     }
 
     private void promise16Needs() {
-        SubtitleDesk desk = Desks.reading("a.10-20:abcdefg;b!10-20:abcdefg;b*20-30:abcdefg");
+        Desk desk = Desks.reading("a.10-20:abcdefg;b!10-20:abcdefg;b*20-30:abcdefg");
         int[][] due = {{5, 35, 18, 28}, {7, 25, 13, 20}, {15, 12, 6, 10}, {16, 11, 6, 9}, {25, 7, 4, 6}, {30, 6, 3, 5}};
         for (int[] row : due) {
             desk.set(0, row[0]);
@@ -62,7 +62,7 @@ final class ToldTest {
     }
 
     private void promise16Looseness() {
-        SubtitleDesk desk = Desks.reading("a!10-40:x;c7;c43");
+        Desk desk = Desks.reading("a!10-40:x;c7;c43");
         problems("both are loose", desk, 0, 0, 6);
         desk.set(1, 2);
         problems("out of the zone", desk, 0, 0, 0);
@@ -71,14 +71,14 @@ final class ToldTest {
         problems("a frame that is a cut is not loose", desk, 0, 0, 4);
         desk.cut(40, true);
         problems("nor is an end", desk, 0, 0, 0);
-        SubtitleDesk edge = Desks.reading("a!0-1000:x;c3;c997");
+        Desk edge = Desks.reading("a!0-1000:x;c3;c997");
         problems("the edges of the film", edge, 0, 0, 6);
         edge.set(1, 0);
         problems("the zone 0", edge, 0, 0, 0);
     }
 
     private void promise16Tightness() {
-        SubtitleDesk desk = Desks.reading("a!10-20:x;a!21-30:y;a!30-40:z;a!42-50:w");
+        Desk desk = Desks.reading("a!10-20:x;a!21-30:y;a!30-40:z;a!42-50:w");
         problems("the first one", desk, 0, 0, 0);
         problems("a gap of 1", desk, 0, 1, 8);
         problems("no gap", desk, 0, 2, 0);
@@ -91,7 +91,7 @@ final class ToldTest {
     }
 
     private void promise16Width() {
-        SubtitleDesk desk = Desks.reading("a!0-90:abcdefghijklmnopq", "b!0-90:ab|cdefghijklmnopqrst");
+        Desk desk = Desks.reading("a!0-90:abcdefghijklmnopq", "b!0-90:ab|cdefghijklmnopqrst");
         check.same("longest line", desk.caption(0, 0, 8), 17);
         check.same("longest line behind |", desk.caption(1, 0, 8), 18);
         problems("17 in 16", desk, 0, 0, 16);
@@ -103,7 +103,7 @@ final class ToldTest {
     }
 
     private void promise16Step() {
-        SubtitleDesk desk = Desks.reading("a.100-200:x;b*105-195:x");
+        Desk desk = Desks.reading("a.100-200:x;b*105-195:x");
         problems("the tolerance", desk, 0, 0, 0);
         problems("the partner's", desk, 1, 0, 0);
         desk.move(1, 0, 106, 200);
@@ -119,7 +119,7 @@ final class ToldTest {
     }
 
     private void promise16Partner() {
-        SubtitleDesk desk = Desks.reading("a.10-30:x;b.0-15:p;b.25-35:q;b.40-50:r");
+        Desk desk = Desks.reading("a.10-30:x;b.0-15:p;b.25-35:q;b.40-50:r");
         check.same("of several the first one", desk.caption(0, 0, 6), 0);
         check.same("shared", desk.caption(0, 0, 11), 5);
         desk.move(1, 1, 24, 35);
@@ -133,7 +133,7 @@ final class ToldTest {
     }
 
     private void promise17Letter() {
-        SubtitleDesk desk = Desks.reading("a.10-40:a_|z;b.10-40:q");
+        Desk desk = Desks.reading("a.10-40:a_|z;b.10-40:q");
         String text = "a_|z";
         for (int i = 0; i < text.length(); i++) {
             check.same("letter " + i, desk.letter(0, 0, i), text.charAt(i));
@@ -148,7 +148,7 @@ final class ToldTest {
     }
 
     private void promise18Shown() {
-        SubtitleDesk desk = Desks.reading("a.10-40:a;a.40-41:b;b.0-1000:c");
+        Desk desk = Desks.reading("a.10-40:a;a.40-41:b;b.0-1000:c");
         check.same("the first frame", desk.shown(0, 10), 0);
         check.same("the last frame", desk.shown(0, 39), 0);
         check.same("the next one", desk.shown(0, 40), 1);
@@ -163,7 +163,7 @@ final class ToldTest {
     }
 
     private void promise19Track() {
-        SubtitleDesk desk = Desks.reading("a.10-12:abc|d;a.13-22:e;a!50-60:f;a!65-66:gg;c12;c55", "b.13-23:h;c61;c23");
+        Desk desk = Desks.reading("a.10-12:abc|d;a.13-22:e;a!50-60:f;a!65-66:gg;c12;c55", "b.13-23:h;c61;c23");
         int[] due = {22, 8, 2, 3, 1, 0, 1, 1, 2};
         for (int what = 0; what < due.length; what++) {
             check.same("track(0, " + what + ")", desk.track(0, what), due[what]);
@@ -178,28 +178,28 @@ final class ToldTest {
         check.same("out of step", desk.track(1, 6), 3);
         check.same("can be merged: one has two new lines", desk.track(1, 8), 1);
         for (int what = 0; what < due.length; what++) {
-            check.same("an empty track", new SubtitleDesk().track(1, what), 0);
+            check.same("an empty track", new Desk().track(1, what), 0);
         }
         for (int wrong : new int[] {-1, 9, Integer.MIN_VALUE, Integer.MAX_VALUE}) {
             check.fails("what " + wrong, IllegalArgumentException.class, () -> desk.track(0, wrong));
             check.fails("track " + wrong, IndexOutOfBoundsException.class, () -> desk.track(wrong, wrong));
         }
         check.fails("track 2", IndexOutOfBoundsException.class, () -> desk.track(2, 0));
-        SubtitleDesk over = Desks.reading("a.10-20:x;a.20-30:y;c10;c20;c30");
+        Desk over = Desks.reading("a.10-20:x;a.20-30:y;c10;c20;c30");
         check.same("cuts at the ends only", over.track(0, 7), 0);
         over.cut(19, true);
         check.same("a cut at the last frame", over.track(0, 7), 1);
     }
 
     private void promise20Fastest() {
-        SubtitleDesk desk = Desks.reading("a.0-20:ab;a.30-40:c;a.50-53:_;b.0-7:ab|c;b.7-14:abc");
+        Desk desk = Desks.reading("a.0-20:ab;a.30-40:c;a.50-53:_;b.0-7:ab|c;b.7-14:abc");
         check.same("the fastest", desk.fastest(0), 2);
         check.same("a new line is no load", desk.fastest(1), 0);
         desk.remove(0, 2);
         check.same("of two alike the first one", desk.fastest(0), 0);
         desk.move(0, 1, 30, 39);
         check.same("a little faster", desk.fastest(0), 1);
-        SubtitleDesk exact = new SubtitleDesk();
+        Desk exact = new Desk();
         exact.film(9999);
         Desks.add(exact, 0, 0, 0, 4996, "abcdefghijklmnopqrstuvwx");
         Desks.add(exact, 0, 0, 4996, 9783, "abcdefghijklmnopqrstuvw");
@@ -211,7 +211,7 @@ final class ToldTest {
     }
 
     private void promise21Speed() {
-        SubtitleDesk desk = Desks.reading("a.0-20:ab;a.30-37:c|d");
+        Desk desk = Desks.reading("a.0-20:ab;a.30-37:c|d");
         check.sameDouble("speed", desk.speed(0), 25.0 * 4 / 27);
         check.sameDouble("multiplied first", Desks.reading("a.0-27:abcdefghi").speed(0), 225.0 / 27.0);
         check.fails("no captions", ArithmeticException.class, () -> desk.speed(1));

@@ -1,5 +1,21 @@
 /** Promises 25 to 27: undo, saveSnapshot, restoreSnapshot. */
 final class UndoTest {
+    private static final Run[] CHANGES = {
+        Desks.texts("a.10-40:ab_c;b!12-40:d;c13;a.43-60:e"),
+        desk -> desk.film(500),
+        desk -> desk.set(5, 20),
+        desk -> desk.cut(43, true),
+        desk -> Desks.add(desk, 0, 0, 80, 90, "abcdefghijklm"),
+        desk -> desk.move(0, 2, 100, 101),
+        desk -> desk.split(0, 0, 2),
+        desk -> desk.merge(0, 0),
+        desk -> desk.snap(0, 0),
+        desk -> desk.fit(0, 2),
+        desk -> desk.retime(-1, 0, 10, 100, 120),
+        desk -> desk.cut(13, false),
+        desk -> desk.remove(0, 1),
+    };
+
     private final Check check = new Check("UndoTest");
 
     public static void main(String[] args) {
@@ -12,99 +28,45 @@ final class UndoTest {
         test.check.end();
     }
 
-    /** All of a desk that undo and snapshots are about. */
-    private static String state(SubtitleDesk desk) {
-        StringBuilder all = new StringBuilder();
-        for (int what = 0; what <= 11; what++) {
-            all.append(desk.number(what)).append(' ');
-        }
-        for (int frame = 0; frame < desk.number(6); frame++) {
-            all.append((char) ('A' + desk.shot(frame)));
-        }
-        return all.append(Desks.captions(desk, 0)).append(';').append(Desks.captions(desk, 1)).toString();
-    }
-
-    private static void change(SubtitleDesk desk, int which) {
-        switch (which) {
-            case 0:
-                Desks.read(desk, "a.10-40:ab_c;b!12-40:d;c13;a.43-60:e");
-                break;
-            case 1:
-                desk.film(500);
-                break;
-            case 2:
-                desk.set(5, 20);
-                break;
-            case 3:
-                desk.cut(43, true);
-                break;
-            case 4:
-                Desks.add(desk, 0, 0, 80, 90, "abcdefghijklm");
-                break;
-            case 5:
-                desk.move(0, 2, 100, 101);
-                break;
-            case 6:
-                desk.split(0, 0, 2);
-                break;
-            case 7:
-                desk.merge(0, 0);
-                break;
-            case 8:
-                desk.snap(0, 0);
-                break;
-            case 9:
-                desk.fit(0, 2);
-                break;
-            case 10:
-                desk.retime(-1, 0, 10, 100, 120);
-                break;
-            case 11:
-                desk.cut(13, false);
-                break;
-            default:
-                desk.remove(0, 1);
-                break;
-        }
+    private static Run changes(int from, int to) {
+        return desk -> {
+            for (int which = from; which < to; which++) {
+                CHANGES[which].on(desk);
+            }
+        };
     }
 
     private void promise25UndoesEachChange() {
-        SubtitleDesk desk = new SubtitleDesk();
-        for (int which = 0; which <= 12; which++) {
-            String before = state(desk);
-            change(desk, which);
-            String then = state(desk);
+        for (int which = 0; which < CHANGES.length; which++) {
+            String before = Whole.film(changes(0, which));
+            Run change = changes(0, which + 1);
+            String then = Whole.film(change);
             check.isTrue("change " + which + " makes a difference", !before.equals(then));
-            desk.undo();
-            check.isTrue("change " + which + " is undone", before.equals(state(desk)));
-            change(desk, which);
-            check.isTrue("change " + which + " is made again", then.equals(state(desk)));
+            check.sameText("after undo of change " + which, Whole.film(change.then(Desk::undo)), before);
+            check.sameText("after change " + which + " again", Whole.film(change.then(Desk::undo).then(CHANGES[which])), then);
         }
     }
 
     private void promise25LatestEight() {
-        SubtitleDesk desk = new SubtitleDesk();
-        String[] states = new String[13];
-        for (int which = 0; which <= 12; which++) {
-            states[which] = state(desk);
-            change(desk, which);
-            check.same("changes", desk.number(12), Math.min(8, which + 1));
+        Run run = changes(0, CHANGES.length);
+        for (int which = 0; which <= CHANGES.length; which++) {
+            check.same("changes", changes(0, which).made().number(12), Math.min(8, which));
         }
         for (int left = 7; left >= 0; left--) {
-            check.same("undo", desk.undo(), left);
-            check.isTrue("as before change " + (left + 5), state(desk).equals(states[left + 5]));
-            check.same("left", desk.number(12), left);
+            check.same("undo", run.made().undo(), left);
+            run = run.then(Desk::undo);
+            check.sameText("as before change " + (left + 5), Whole.film(run), Whole.film(changes(0, left + 5)));
+            check.same("left", run.made().number(12), left);
         }
-        check.fails("what was forgotten", IllegalStateException.class, desk::undo);
-        check.isTrue("nothing is different", state(desk).equals(states[5]));
-        desk.set(0, 20);
-        check.same("a new change", desk.undo(), 0);
-        check.isTrue("is undone", state(desk).equals(states[5]));
-        check.fails("forgotten still", IllegalStateException.class, desk::undo);
+        check.leaves("what was forgotten", IllegalStateException.class, run, Desk::undo);
+        Run again = run.then(desk -> desk.set(0, 20));
+        check.same("a new change", again.made().undo(), 0);
+        check.sameText("it is undone", Whole.film(again.then(Desk::undo)), Whole.film(run));
+        check.leaves("forgotten still", IllegalStateException.class, again.then(Desk::undo), Desk::undo);
     }
 
     private void promise25FailedCallsAreNoChanges() {
-        SubtitleDesk desk = Desks.reading("a.10-40:ab_c;b!12-40:d;c13");
+        Desk desk = Desks.reading("a.10-40:ab_c;b!12-40:d;c13");
         check.fails("film", IllegalArgumentException.class, () -> desk.film(5));
         check.fails("set", IllegalArgumentException.class, () -> desk.set(0, 0));
         check.fails("cut", IndexOutOfBoundsException.class, () -> desk.cut(0, true));
@@ -124,7 +86,7 @@ final class UndoTest {
     }
 
     private void promise26SaveSnapshot() {
-        SubtitleDesk desk = new SubtitleDesk();
+        Desk desk = new Desk();
         check.same("no captions", desk.saveSnapshot(), 0);
         Desks.read(desk, "a.10-40:ab_c;b!12-40:d;c13;a.43-60:e");
         check.same("three captions", desk.saveSnapshot(), 3);
@@ -139,28 +101,21 @@ final class UndoTest {
     }
 
     private void promise27RestoreSnapshot() {
-        SubtitleDesk desk = new SubtitleDesk();
-        check.fails("none", IllegalStateException.class, desk::restoreSnapshot);
-        for (int which = 0; which <= 6; which++) {
-            change(desk, which);
-        }
-        String saved = state(desk);
-        desk.saveSnapshot();
-        for (int which = 7; which <= 12; which++) {
-            change(desk, which);
-        }
-        desk.set(0, 5);
-        desk.film(9999);
-        Desks.feed(desk, "xyz");
-        check.same("captions", desk.restoreSnapshot(), 5);
-        check.isTrue("all is as it was saved", saved.equals(state(desk)));
+        check.fails("none", IllegalStateException.class, new Desk()::restoreSnapshot);
+        Run saved = changes(0, 7);
+        Run run = saved.then(Desk::saveSnapshot).then(changes(7, CHANGES.length)).then(desk -> desk.set(0, 5))
+                .then(desk -> desk.film(9999)).then(desk -> Desks.feed(desk, "xyz"));
+        check.same("captions", run.made().restoreSnapshot(), 5);
+        Run restored = run.then(Desk::restoreSnapshot);
+        check.sameText("all is as it was saved", Whole.film(restored), Whole.film(saved));
+        Desk desk = restored.made();
         check.same("nothing can be undone", desk.number(12), 0);
         check.fails("nothing", IllegalStateException.class, desk::undo);
         check.same("the input stays", desk.number(13), 3);
         desk.remove(0, 0);
         check.same("a change after it", desk.undo(), 0);
-        desk.remove(0, 0);
-        check.same("it is kept", desk.restoreSnapshot(), 5);
-        check.isTrue("and the same", saved.equals(state(desk)));
+        Run twice = restored.then(again -> again.remove(0, 0));
+        check.same("it is kept", twice.made().restoreSnapshot(), 5);
+        check.sameText("the same", Whole.film(twice.then(Desk::restoreSnapshot)), Whole.film(saved));
     }
 }
